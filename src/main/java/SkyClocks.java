@@ -699,8 +699,8 @@ public final class SkyClocks {
 
     /** Where the turns of a STAR's MODEL begin. */
     private static final class Turns {
-        // no COMPANIONS bring a turn further from where it begins than both at their greatest
-        private static final long REACH = 2L * 50000 * 1000;
+        // COMPANIONS bring no turn further from where it begins than all of them at their greatest
+        private static final long REACH = 1000L * Model.MOST_COMPANIONS * Model.GREATEST_LATE;
 
         private final long[] begins = new long[LAST_TURN + 1];
         private Model model = new Model();

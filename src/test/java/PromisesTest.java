@@ -448,6 +448,10 @@ public final class PromisesTest {
         due("15 turn 0 comes at 100", x.turn(2, 0), 0);
         due("15 turn 149 comes at 249", x.turn(2, 1), 149);
         due("15 turn 155 comes at 255", x.turn(2, 2), 155);
+        // turns 0, 1, 2 begin at 0, 50, 100, and come at 100
+        model(x, 3, "p100000;s0,-50000;c4,50000,25000,0,0;c4,50000,25000,0,0;");
+        x.arrival(3, 100, 0, 0, 0);
+        due("15 the lowest of three that come at once", x.turn(3, 0), 0);
         x.arrival(2, 350, 0, 0, 0);
         due("15 turn 450 comes at 350", x.turn(2, 3), 450);
     }
@@ -485,6 +489,8 @@ public final class PromisesTest {
         due("16 500 ways", x.ways(0, 100000, 50000000), 500);
         due("16 the lesser first", x.way(0, 1), 1);
         due("16 the lesser first", x.way(499, 1), 500);
+        due("20 all 500 go on", x.left(2000000, 0), 500);
+        due("21 all 500 are left", x.look(2000000, 1, 1, 0), 2000000);
         x.arrival(1, 0, 0, 0, 0);
         x.arrival(1, 50100, 0, 0, 0);
         due("16 501 ways", x.ways(1, 100000, 50100000), -5);
@@ -560,6 +566,8 @@ public final class PromisesTest {
         due("18 count 1 is sure", x.sure(1), 1);
         due("18 count 2 is not", x.sure(2), -4);
         due("18 no such", x.sure(3), -2);
+        due("18 two ways", x.ways(0, 999000, 1010000), 2);
+        due("18 one of two by itself", x.sure(2), -4);
         due("18 no way", x.ways(0, 800000, 800000), 0);
         due("18 no way", x.sure(0), -4);
         due("18 no such ahead of no way", x.sure(3), -2);
@@ -668,6 +676,7 @@ public final class PromisesTest {
         due("21 fewest", x.look(201000, 1000, 20, 0), bestBy(x, 201000, 1000, 20, 0));
         due("21 the earliest of several", x.look(201000, 1, 20, 1000), 201000);
         due("21 not one that leaves none", x.look(200500, 500, 2, 0), 201000);
+        due("21 the greatest step", x.look(1000000, 100000, 11, 1000), 1000000);
         due("21 up to the end", x.look(1999981, 1, 20, 1000), 1999981);
         due("21 the last look", x.look(200000, 1000, 2, 0), 201000);
         due("21 as many as told", x.look(200000, 1000, 1, 0), -4);
@@ -706,6 +715,9 @@ public final class PromisesTest {
         due("22 as great", withResidues(1, 2, 1, 1, 2).slip(0), 2);
         // n = 6, all: 0; k 2: (6 * 17)^2 / 8, k 3: (6 * 18)^2 / 9
         due("22 by weights", withResidues(8, 9, 1, -6, -6, -6).slip(0), 2);
+        // n = 6, all: 6; k 2: 36 / 8, k 3: 36 / 9, k 4: 0
+        due("22 by less than 1", withResidues(2, 1, 1, 0, 1, 1).slip(0), 2);
+        due("22 by less than 1, from behind", withResidues(1, 1, 0, 1, 1, 2).slip(0), 4);
         SkyClocks x = new SkyClocks();
         model(x, 0, "p100000;s0,-50000;s0,-50000;");
         for (int i = 0; i < 12; i++) {
@@ -810,13 +822,13 @@ public final class PromisesTest {
             x.clear(s);
             model(x, s, "p100000000;");
             for (int i = 0; i < 12; i++) {
-                x.arrival(s, 100 + i, 1, 0, 0);
+                x.arrival(s, 100 + i + 12 * s, 1, 0, 0);
                 x.arrival(s, 50, 1, 1, 0);
             }
         }
         x.offset(0, 0);
-        due("26 the most pairs", x.between(0, 1), 55);
-        due("26 the most pairs", x.between(1, 0), -56);
+        due("26 the most pairs", x.between(0, 1), 50 + 23);
+        due("26 the most pairs", x.between(1, 0), -50 - 24);
     }
 
     private static void promise27() {
