@@ -1,48 +1,14 @@
 /** Each promise by itself: ordinary inputs, the edges that the document names, wrong inputs. */
 public final class PromisesTest {
-    private static final long BAD_LONG = -1000000000000000000L, NO_LONG = -1000000000000000002L;
+    private static final long BAD_LONG = Sky.BAD_LONG, NO_LONG = Sky.NO_LONG;
     private static final Due DUE = new Due();
 
     private static void due(String call, long got, long want) {
         DUE.is(call, got, want);
     }
 
-    /** Writes a text of signs 0 to 255, eight at a time. */
-    private static void write(SkyClocks x, String text) {
-        for (int i = 0; i < text.length(); i += 8) {
-            int n = Math.min(8, text.length() - i);
-            long v = 0;
-            for (int j = 0; j < n; j++) {
-                v = v << 8 | text.charAt(i + j);
-            }
-            x.write(n, v);
-        }
-    }
-
     private static int fault(String text) {
-        SkyClocks x = new SkyClocks();
-        write(x, text);
-        return x.fault();
-    }
-
-    private static int model(SkyClocks x, int star, String text) {
-        x.wipe();
-        write(x, text);
-        return x.model(star);
-    }
-
-    /** A STAR of PERIOD 1000 from 0 on, with ARRIVALS of ERR 1 by INSTRUMENT 0 that have these RESIDUES. */
-    private static void residues(SkyClocks x, int star, int... all) {
-        model(x, star, "p1000000;");
-        for (int i = 0; i < all.length; i++) {
-            x.arrival(star, 1000 * (i + 1) + all[i], 1, 0, 0);
-        }
-    }
-
-    private static SkyClocks withResidues(int... all) {
-        SkyClocks x = new SkyClocks();
-        residues(x, 0, all);
-        return x;
+        return Sky.fault(new SkyClocks(), text);
     }
 
     private static void promise01() {
@@ -249,11 +215,11 @@ public final class PromisesTest {
 
     private static void promise10() {
         SkyClocks x = new SkyClocks();
-        write(x, "p100000;z");
+        Sky.write(x, "p100000;z");
         due("10 length", x.wipe(), 9);
         due("10 empty", x.wipe(), 0);
         due("10 empty", x.fault(), 0);
-        write(x, "p100000;");
+        Sky.write(x, "p100000;");
         due("10 from the start", x.fault(), -4);
         x.model(0);
         x.wipe();
@@ -318,7 +284,7 @@ public final class PromisesTest {
 
     private static void promise12() {
         SkyClocks x = new SkyClocks();
-        write(x, "p200000;z3;s1,1;");
+        Sky.write(x, "p200000;z3;s1,1;");
         due("12 items", x.model(0), 3);
         due("12 low", x.model(-1), -1);
         due("12 high", x.model(4), -1);
@@ -329,7 +295,7 @@ public final class PromisesTest {
         due("12 the old one stays", x.comes(0, 0), 3000000);
         due("12 no model by a FAULT", x.model(1), -2);
         due("12 no model by a FAULT", x.comes(1, 0), -2);
-        due("12 another", model(x, 0, "p300000;"), 1);
+        due("12 another", Sky.model(x, 0, "p300000;"), 1);
         due("12 taken on", x.comes(0, 1), 300000000);
         due("12 the other's stays", x.comes(3, 0), 3000000);
         due("12 the other's stays", x.comes(3, 1), 203001000);
@@ -338,7 +304,7 @@ public final class PromisesTest {
 
     private static void promise13() {
         SkyClocks x = new SkyClocks();
-        model(x, 0, "p100000;z7;");
+        Sky.model(x, 0, "p100000;z7;");
         due("13 zero", x.comes(0, 0), 7000000);
         due("13 one", x.comes(0, 1), 107000000);
         due("13 last", x.comes(0, 10000), 1000007000000L);
@@ -347,36 +313,36 @@ public final class PromisesTest {
         due("13 star", x.comes(4, 0), -1);
         due("13 star", x.comes(-1, 0), -1);
         due("13 no model", x.comes(1, 0), -2);
-        model(x, 0, "p200000000;");
+        Sky.model(x, 0, "p200000000;");
         due("13 the old stays", x.comes(0, 1), 107000000);
-        model(x, 0, "p100000000;");
+        Sky.model(x, 0, "p100000000;");
         due("13 the last that is there", x.comes(0, 20), 2000000000000L);
         due("13 none beyond", x.comes(0, 21), -2);
-        model(x, 0, "p100000000;d1;");
+        Sky.model(x, 0, "p100000000;d1;");
         due("13 19 turns", x.comes(0, 19), 1900000000171L);
         due("13 a little beyond", x.comes(0, 20), -2);
-        model(x, 1, "p100000;d-100000;");
+        Sky.model(x, 1, "p100000;d-100000;");
         due("13 d: 0", x.comes(1, 1), 100000000);
         due("13 d: 1", x.comes(1, 2), 199900000);
         due("13 d: 2", x.comes(1, 3), 299700000);
         due("13 d: at 1000", x.comes(1, 991) - x.comes(1, 990), 1000000);
         due("13 d: at 990", x.comes(1, 990) - x.comes(1, 989), 1100000);
         due("13 d: least", x.comes(1, 10000) - x.comes(1, 9999), 1000000);
-        model(x, 2, "p100000;s200,500;s200,-100;s201,7;");
+        Sky.model(x, 2, "p100000;s200,500;s200,-100;s201,7;");
         due("13 slips", x.comes(2, 2), 200000000);
         due("13 slips", x.comes(2, 3), 300400000);
         due("13 slips", x.comes(2, 4), 400807000);
-        model(x, 3, "p100000;c4,1,2,3,4;");
+        Sky.model(x, 3, "p100000;c4,1,2,3,4;");
         long[] late = {1000, 2000, 3000, 4000, 1000, 2000};
         for (int n = 0; n < 6; n++) {
             due("13 companion", x.comes(3, n), 100000000L * n + late[n]);
         }
-        model(x, 3, "p100000;c6,1,2,3,4;c5,10,20,30,-40;");
+        Sky.model(x, 3, "p100000;c6,1,2,3,4;c5,10,20,30,-40;");
         long[] both = {11000, 11000, 22000, 33000, -37000, 14000};
         for (int n = 0; n < 6; n++) {
             due("13 companions", x.comes(3, n), 100000000L * n + both[n]);
         }
-        model(x, 3, "p100000;c4,-50000,0,0,0;");
+        Sky.model(x, 3, "p100000;c4,-50000,0,0,0;");
         due("13 ahead of time 0", x.comes(3, 0), -50000000);
     }
 
@@ -384,7 +350,7 @@ public final class PromisesTest {
         SkyClocks x = new SkyClocks();
         x.arrival(0, 1003, 1, 0, 0);
         due("14 no model", x.residue(0, 0), -1000000002);
-        model(x, 0, "p1000000;d50000;");
+        Sky.model(x, 0, "p1000000;d50000;");
         due("14 later", x.residue(0, 0), 3);
         due("14 no such", x.residue(0, 1), -1000000002);
         due("14 star", x.residue(-1, 0), -1000000000);
@@ -394,7 +360,7 @@ public final class PromisesTest {
         x.offset(0, 7);
         due("14 by CORRECTED", x.residue(0, 0), -4);
         x.offset(0, 0);
-        model(x, 1, "p100000;z1;c4,600,-600,0,0;");
+        Sky.model(x, 1, "p100000;z1;c4,600,-600,0,0;");
         x.arrival(1, 4, 1, 0, 0);
         x.arrival(1, 99, 1, 0, 0);
         x.arrival(1, 100, 1, 0, 0);
@@ -403,10 +369,10 @@ public final class PromisesTest {
         due("14 cut: 99 less 100.4", x.residue(1, 1), -1);
         due("14 cut: 100 less 100.4", x.residue(1, 2), 0);
         due("14 cut: 101 less 100.4", x.residue(1, 3), 0);
-        model(x, 2, "p100000;z1000000;");
+        Sky.model(x, 2, "p100000;z1000000;");
         x.arrival(2, 0, 0, 0, 0);
         due("14 far ahead of all turns", x.residue(2, 0), -1000000);
-        model(x, 2, "p100000;s0,-50000;s0,-50000;");
+        Sky.model(x, 2, "p100000;s0,-50000;s0,-50000;");
         x.clear(2);
         x.arrival(2, 1000000, 0, 0, 0);
         due("14 far behind all turns", x.residue(2, 0), 990000);
@@ -417,7 +383,7 @@ public final class PromisesTest {
 
     private static void promise15() {
         SkyClocks x = new SkyClocks();
-        model(x, 0, "p100000;");
+        Sky.model(x, 0, "p100000;");
         x.arrival(0, 50, 0, 0, 0);
         x.arrival(0, 51, 0, 0, 0);
         x.arrival(0, 149, 0, 0, 0);
@@ -433,15 +399,15 @@ public final class PromisesTest {
         due("15 k", x.turn(0, 24), -1);
         due("15 k", x.turn(0, -1), -1);
         // turns 0 and 1 come at 50 and 50, turns 2 and 3 at 250 and 250
-        model(x, 0, "p100000;c4,50000,-50000,50000,-50000;");
+        Sky.model(x, 0, "p100000;c4,50000,-50000,50000,-50000;");
         due("15 of two that come at once the lowest", x.turn(0, 0), 0);
         due("15 of two that come at once the lowest", x.turn(0, 2), 0);
         // turn 0 comes at 50, turn 1, which begins at 50, at 0, turn 2 at 100
-        model(x, 1, "p100000;s0,-50000;c4,50000,-50000,0,0;");
+        Sky.model(x, 1, "p100000;s0,-50000;c4,50000,-50000,0,0;");
         x.arrival(1, 1, 0, 0, 0);
         due("15 a later turn may come sooner", x.turn(1, 0), 1);
         // turns of 1 each, by companions up to 200 behind one another
-        model(x, 2, "p100000;s0,-50000;s0,-49000;c1000,50000,-50000,50000,-50000;c1000,50000,-50000,50000,-50000;");
+        Sky.model(x, 2, "p100000;s0,-50000;s0,-49000;c1000,50000,-50000,50000,-50000;c1000,50000,-50000,50000,-50000;");
         x.arrival(2, 100, 0, 0, 0);
         x.arrival(2, 249, 0, 0, 0);
         x.arrival(2, 255, 0, 0, 0);
@@ -449,7 +415,7 @@ public final class PromisesTest {
         due("15 turn 149 comes at 249", x.turn(2, 1), 149);
         due("15 turn 155 comes at 255", x.turn(2, 2), 155);
         // turns 0, 1, 2 begin at 0, 50, 100, and come at 100
-        model(x, 3, "p100000;s0,-50000;c4,50000,25000,0,0;c4,50000,25000,0,0;");
+        Sky.model(x, 3, "p100000;s0,-50000;c4,50000,25000,0,0;c4,50000,25000,0,0;");
         x.arrival(3, 100, 0, 0, 0);
         due("15 the lowest of three that come at once", x.turn(3, 0), 0);
         x.arrival(2, 350, 0, 0, 0);
@@ -704,22 +670,22 @@ public final class PromisesTest {
         due("22 star", new SkyClocks().slip(-1), -1);
         due("22 star", new SkyClocks().slip(4), -1);
         due("22 no model", new SkyClocks().slip(0), -2);
-        due("22 too few", withResidues(1, 2, 3).slip(0), -2);
-        due("22 four", withResidues(9, 0, 0, 0).slip(0), 2);
-        due("22 of like ones the least", withResidues(5, 5, 5, 5, 5, 5).slip(0), 2);
-        due("22 a slip", withResidues(0, 0, 0, 7, 7, 7, 7, 7).slip(0), 3);
-        due("22 a slip down", withResidues(7, 7, 7, 7, 7, 7, 0, 0).slip(0), 6);
-        due("22 not ahead of 2", withResidues(9, 0, 0, 0, 0, 0).slip(0), 2);
-        due("22 not behind n - 2", withResidues(0, 0, 0, 0, 0, 9).slip(0), 4);
+        due("22 too few", Sky.withResidues(1, 2, 3).slip(0), -2);
+        due("22 four", Sky.withResidues(9, 0, 0, 0).slip(0), 2);
+        due("22 of like ones the least", Sky.withResidues(5, 5, 5, 5, 5, 5).slip(0), 2);
+        due("22 a slip", Sky.withResidues(0, 0, 0, 7, 7, 7, 7, 7).slip(0), 3);
+        due("22 a slip down", Sky.withResidues(7, 7, 7, 7, 7, 7, 0, 0).slip(0), 6);
+        due("22 not ahead of 2", Sky.withResidues(9, 0, 0, 0, 0, 0).slip(0), 2);
+        due("22 not behind n - 2", Sky.withResidues(0, 0, 0, 0, 0, 9).slip(0), 4);
         // n = 5: k 2: (5 * 3 - 2 * 7)^2 / 6 = 1/6, k 3: (5 * 4 - 3 * 7)^2 / 6 = 1/6
-        due("22 as great", withResidues(1, 2, 1, 1, 2).slip(0), 2);
+        due("22 as great", Sky.withResidues(1, 2, 1, 1, 2).slip(0), 2);
         // n = 6, all: 0; k 2: (6 * 17)^2 / 8, k 3: (6 * 18)^2 / 9
-        due("22 by weights", withResidues(8, 9, 1, -6, -6, -6).slip(0), 2);
+        due("22 by weights", Sky.withResidues(8, 9, 1, -6, -6, -6).slip(0), 2);
         // n = 6, all: 6; k 2: 36 / 8, k 3: 36 / 9, k 4: 0
-        due("22 by less than 1", withResidues(2, 1, 1, 0, 1, 1).slip(0), 2);
-        due("22 by less than 1, from behind", withResidues(1, 1, 0, 1, 1, 2).slip(0), 4);
+        due("22 by less than 1", Sky.withResidues(2, 1, 1, 0, 1, 1).slip(0), 2);
+        due("22 by less than 1, from behind", Sky.withResidues(1, 1, 0, 1, 1, 2).slip(0), 4);
         SkyClocks x = new SkyClocks();
-        model(x, 0, "p100000;s0,-50000;s0,-50000;");
+        Sky.model(x, 0, "p100000;s0,-50000;s0,-50000;");
         for (int i = 0; i < 12; i++) {
             x.arrival(0, 0, 0, 0, 0);
             x.arrival(0, 1000000, 0, 0, 0);
@@ -731,17 +697,17 @@ public final class PromisesTest {
         due("23 star", new SkyClocks().falseShare(-1), -1);
         due("23 star", new SkyClocks().falseShare(4), -1);
         due("23 no model", new SkyClocks().falseShare(0), -2);
-        due("23 too few", withResidues(1, 2, 3).falseShare(0), -2);
-        due("23 all", withResidues(0, 0, 0, 0).falseShare(0), 16);
-        due("23 the clearest slip", withResidues(-5, -5, 5, 5).falseShare(0), 2);
-        due("23 no slip at all", withResidues(5, 5, 5, 5).falseShare(0), 16);
+        due("23 too few", Sky.withResidues(1, 2, 3).falseShare(0), -2);
+        due("23 all", Sky.withResidues(0, 0, 0, 0).falseShare(0), 16);
+        due("23 the clearest slip", Sky.withResidues(-5, -5, 5, 5).falseShare(0), 2);
+        due("23 no slip at all", Sky.withResidues(5, 5, 5, 5).falseShare(0), 16);
         // n = 4, k = 2: (2 (a + b) - 2 (c + d))^2: of 9, 0, 0, 0 all rows are as great
-        due("23 one by itself", withResidues(9, 0, 0, 0).falseShare(0), 16);
+        due("23 one by itself", Sky.withResidues(9, 0, 0, 0).falseShare(0), 16);
         // (3 + 1 - (1 + 1))^2 = 4: sums of +-3 +-1 less +-1 +-1 of size 2 at least: all but those of size 0
-        due("23 some", withResidues(3, 1, 1, 1).falseShare(0), 14);
-        due("23 twelve", withResidues(-5, -5, -5, -5, -5, -5, 5, 5, 5, 5, 5, 5).falseShare(0), 2);
-        due("23 thirteen", withResidues(-5, -5, -5, -5, -5, -5, 5, 5, 5, 5, 5, 5, 5).falseShare(0), -2);
-        due("23 thirteen slip", withResidues(-5, -5, -5, -5, -5, -5, 5, 5, 5, 5, 5, 5, 5).slip(0), 6);
+        due("23 some", Sky.withResidues(3, 1, 1, 1).falseShare(0), 14);
+        due("23 twelve", Sky.withResidues(-5, -5, -5, -5, -5, -5, 5, 5, 5, 5, 5, 5).falseShare(0), 2);
+        due("23 thirteen", Sky.withResidues(-5, -5, -5, -5, -5, -5, 5, 5, 5, 5, 5, 5, 5).falseShare(0), -2);
+        due("23 thirteen slip", Sky.withResidues(-5, -5, -5, -5, -5, -5, 5, 5, 5, 5, 5, 5, 5).slip(0), 6);
     }
 
     private static void promise24() {
@@ -750,14 +716,14 @@ public final class PromisesTest {
         due("24 star", x.hum(0, 4), BAD_LONG);
         due("24 alike", x.hum(2, 2), BAD_LONG);
         due("24 no model", x.hum(0, 1), NO_LONG);
-        residues(x, 0, 3, -4, 5, 1, 1, 1, 1, 100);
+        Sky.residues(x, 0, 3, -4, 5, 1, 1, 1, 1, 100);
         due("24 no model", x.hum(0, 1), NO_LONG);
-        residues(x, 1, 2);
+        Sky.residues(x, 1, 2);
         due("24 too few", x.hum(0, 1), NO_LONG);
         x.arrival(1, 2006, 1, 0, 0);
         due("24 as many as both have", x.hum(0, 1), 3 * 2 - 4 * 6);
         due("24 turned", x.hum(1, 0), 3 * 2 - 4 * 6);
-        residues(x, 2, 1, 1, 1, 1, 1, 1, 10, 100, 100);
+        Sky.residues(x, 2, 1, 1, 1, 1, 1, 1, 10, 100, 100);
         due("24 seven at most", x.hum(0, 2), 3 - 4 + 5 + 1 + 1 + 1 + 10);
     }
 
@@ -767,12 +733,12 @@ public final class PromisesTest {
         due("25 star", x.shuffled(0, 4), -1);
         due("25 alike", x.shuffled(2, 2), -1);
         due("25 no model", x.shuffled(0, 1), -2);
-        residues(x, 0, 1, 2, 3, 4, 5, 6, 7, 100);
-        residues(x, 1, 1, 2, 3, 4, 5, 6, 7, 100);
+        Sky.residues(x, 0, 1, 2, 3, 4, 5, 6, 7, 100);
+        Sky.residues(x, 1, 1, 2, 3, 4, 5, 6, 7, 100);
         due("25 the greatest of 5040", x.shuffled(0, 1), 1);
-        residues(x, 2, 7, 6, 5, 4, 3, 2, 1);
+        Sky.residues(x, 2, 7, 6, 5, 4, 3, 2, 1);
         due("25 the least of 5040", x.shuffled(0, 2), 5040);
-        residues(x, 3, 1, 1, 2);
+        Sky.residues(x, 3, 1, 1, 2);
         // of 1, 1, 2 by 1, 2, 3: the like ones in both orders
         due("25 like ones", x.shuffled(0, 3), 2);
         due("25 like ones", x.shuffled(3, 0), 2);
@@ -793,7 +759,7 @@ public final class PromisesTest {
         x.arrival(0, 1003, 1, 0, 0);
         x.arrival(0, 1000, 1, 1, 0);
         due("26 no model", x.between(0, 1), -10000002);
-        model(x, 0, "p1000000;");
+        Sky.model(x, 0, "p1000000;");
         due("26 one", x.between(0, 1), 3);
         due("26 turned", x.between(1, 0), -3);
         x.arrival(0, 2010, 1, 0, 0);
@@ -801,7 +767,7 @@ public final class PromisesTest {
         x.arrival(0, 2000, 1, 1, 0);
         due("26 of two the lesser", x.between(0, 1), 3);
         due("26 of two the lesser", x.between(1, 0), -10);
-        model(x, 3, "p2000000;");
+        Sky.model(x, 3, "p2000000;");
         x.arrival(3, 4020, 1, 0, 0);
         x.arrival(3, 4000, 1, 1, 0);
         due("26 over all stars", x.between(0, 1), 10);
@@ -820,7 +786,7 @@ public final class PromisesTest {
         due("26 none by that one", x.between(0, 2), -10000002);
         for (int s = 0; s < 4; s++) {
             x.clear(s);
-            model(x, s, "p100000000;");
+            Sky.model(x, s, "p100000000;");
             for (int i = 0; i < 12; i++) {
                 x.arrival(s, 100 + i + 12 * s, 1, 0, 0);
                 x.arrival(s, 50, 1, 1, 0);
@@ -838,7 +804,7 @@ public final class PromisesTest {
             due("27 BAD", x.loop(w[0], w[1], w[2]), -10000000);
         }
         due("27 none", x.loop(0, 1, 2), -10000002);
-        model(x, 0, "p1000000;");
+        Sky.model(x, 0, "p1000000;");
         x.arrival(0, 1003, 1, 0, 0);
         x.arrival(0, 1000, 1, 1, 0);
         due("27 two lack", x.loop(0, 1, 2), -10000002);
@@ -859,7 +825,7 @@ public final class PromisesTest {
         due("28 star", x.moved(-1), -1);
         due("28 star", x.moved(4), -1);
         due("28 no model", x.moved(0), -2);
-        model(x, 0, "p1000000;");
+        Sky.model(x, 0, "p1000000;");
         due("28 none", x.moved(0), 0);
         x.arrival(0, 1000, 1, 0, 0);
         x.arrival(0, 101000, 1, 0, 0);
@@ -883,7 +849,7 @@ public final class PromisesTest {
         due("29 star", x.alarm(-1), -1);
         due("29 star", x.alarm(4), -1);
         due("29 no model", x.alarm(0), -2);
-        model(x, 0, "p1000000;");
+        Sky.model(x, 0, "p1000000;");
         due("29 no arrivals", x.alarm(0), -4);
         x.arrival(0, 1003, 1, 0, 9000);
         due("29 not above three times", x.alarm(0), -4);
@@ -900,7 +866,7 @@ public final class PromisesTest {
         x.rule(1, 4999);
         due("29 those that count", x.alarm(0), -4);
         x.arrival(1, 1000, 0, 0, 0);
-        model(x, 1, "p1000000;");
+        Sky.model(x, 1, "p1000000;");
         due("29 ERR 0", x.alarm(1), -4);
         x.offset(0, 1);
         due("29 ERR 0", x.alarm(1), 0);
@@ -916,9 +882,9 @@ public final class PromisesTest {
         due("30 arrivals", x.count(0), 3);
         x.rule(1, 5);
         due("30 arrivals", x.count(0), 2);
-        model(x, 0, "p100000;");
-        model(x, 0, "p100000;");
-        model(x, 2, "p100000;d1;");
+        Sky.model(x, 0, "p100000;");
+        Sky.model(x, 0, "p100000;");
+        Sky.model(x, 2, "p100000;d1;");
         due("30 models", x.count(1), 2);
         due("30 bytes", x.count(2), 11);
         due("30 ways", x.ways(0, 100000, 500000), 9);
