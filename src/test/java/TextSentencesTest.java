@@ -324,6 +324,12 @@ public final class TextSentencesTest {
         }
     }
 
+    private static void plainTurns(SkyClocks x, int star) {
+        for (int n = 0; n < 5; n++) {
+            due(x.comes(star, n), 100000000L * n);
+        }
+    }
+
     private static void turns() {
         S.test(13, "turn 0 begins at z (0 without)", x -> {
             Sky.model(x, 0, "p100000;");
@@ -332,6 +338,19 @@ public final class TextSentencesTest {
             comesAll(x, 0, 0);
             Sky.model(x, 0, "p100000;z1000000;");
             comesAll(x, 0, 1000000000000L, 1000100000000L);
+        });
+        S.test(13, "turn 0 begins at z (0 without)", x -> {
+            // nothing of a TEXT that was read ahead of it stays
+            String plain = "p100000;";
+            for (int i = 0; i < 4; i++) {
+                due(Sky.fault(x, "p300000;z7;d9;s0,5;s0,5;s0,5;c4,1,2,3,4;c4,1,2,3,4;"), NONE);
+                due(Sky.model(x, i, plain), 1);
+                plainTurns(x, i);
+                due(Sky.model(x, i, "p300000;z7;d9;s0,5;s0,5;s0,5;c4,1,2,3,4;c4,1,2,3,4;"), 8);
+                due(Sky.model(x, i, plain), 1);
+                due(Sky.model(x, i, plain), 1);
+                plainTurns(x, i);
+            }
         });
         S.test(13, "n times d", x -> {
             Sky.model(x, 0, "p100000;d1;");
