@@ -195,7 +195,7 @@ public final class ArrivalSentencesTest {
             due(x.residue(0, 0), Sky.NO_RESIDUE);
             due(x.count(3), 1);
         });
-        S.test(3, "STARS 0 to 3", x -> {
+        S.test(3, "how many there were. BAD.", x -> {
             for (int s = 0; s < 4; s++) {
                 x.arrival(s, 0, 0, 0, 0);
             }
@@ -459,7 +459,7 @@ public final class ArrivalSentencesTest {
             x.rule(1, 4);
             due(x.many(1), 0);
         });
-        S.test(8, "STARS 0 to 3", x -> {
+        S.test(8, "How many ARRIVALS of a STAR count. BAD.", x -> {
             for (int s = 0; s < 4; s++) {
                 for (int i = 0; i <= s; i++) {
                     x.arrival(s, i, 0, 0, 0);

@@ -13,9 +13,6 @@ import java.util.regex.Pattern;
 /** What can be seen from outside of the rules of LANGUAGE.md that bind src/main/java/SkyClocks.java. */
 public final class LanguageTest {
     private static final Due DUE = new Due();
-    private static final String[] FACE = {"arrival 5", "clear 1", "offset 2", "shift 3", "rule 2", "at 3", "many 1", "write 2",
-        "wipe 0", "fault 0", "model 1", "comes 2", "residue 2", "turn 2", "ways 3", "way 2", "sure 1", "fit 2", "left 2",
-        "look 4", "slip 1", "falseShare 1", "hum 2", "shuffled 2", "between 2", "loop 3", "moved 1", "alarm 1", "count 1"};
     private static final String[] NOT_ALLOWED = {"\\bthrow\\b", "\\bthrows\\b", "\\btry\\b", "\\bcatch\\b", "\\bfinally\\b",
         "\\bsynchronized\\b", "\\bassert\\b", "->", "::", "\\bimport\\b", "\\bdouble\\b", "\\bfloat\\b", "Exact\\b", "\\bSystem\\.(?!arraycopy)",
         "\\bArrays\\b", "\\bObject\\b", "\\bequals\\b", "\\bhashCode\\b", "\\btoString\\b", "\\bstatic\\s*\\{", "@", "\\bThread\\b",
@@ -52,25 +49,20 @@ public final class LanguageTest {
         }
     }
 
-    private static void face() {
-        Class<?> c = SkyClocks.class;
-        rule("public and final", Modifier.isPublic(c.getModifiers()) && Modifier.isFinal(c.getModifiers()));
-        rule("one constructor", c.getDeclaredConstructors().length == 1 && c.getConstructors().length == 1);
-        Set<String> wanted = new HashSet<>(List.of(FACE));
+    /** No member but those of the face, which FaceTest looks at, can be seen, and no private method bears the name of one. */
+    private static void members(Class<?> c) {
         Set<String> names = new HashSet<>();
-        for (String f : FACE) names.add(f.substring(0, f.indexOf(' ')));
+        for (Method m : c.getMethods()) {
+            names.add(m.getName());
+        }
         for (Method m : c.getDeclaredMethods()) {
-            if (Modifier.isPublic(m.getModifiers())) {
-                rule("not of the face: " + m, wanted.remove(m.getName() + " " + m.getParameterCount()));
-            } else {
+            if (!Modifier.isPublic(m.getModifiers())) {
                 rule("neither public nor private: " + m, Modifier.isPrivate(m.getModifiers()));
                 rule("bears the name of a public one: " + m, !names.contains(m.getName()));
             }
         }
-        rule("missing: " + wanted, wanted.isEmpty());
-        Set<String> constants = new HashSet<>(List.of("BAD", "NO", "FULL", "NONE", "SPENT"));
         for (Field f : c.getDeclaredFields()) {
-            rule("neither a constant of the face nor private: " + f, Modifier.isPrivate(f.getModifiers()) || constants.contains(f.getName()));
+            rule("neither public nor private: " + f, Modifier.isPublic(f.getModifiers()) || Modifier.isPrivate(f.getModifiers()));
         }
     }
 
@@ -98,7 +90,7 @@ public final class LanguageTest {
         Path source = Path.of("src/main/java/SkyClocks.java");
         words(Files.readString(source));
         lengths(Files.readAllLines(source));
-        face();
+        members(SkyClocks.class);
         inside(SkyClocks.class);
         rule("more than 12 classes", SkyClocks.class.getDeclaredClasses().length <= 11);
         DUE.end();

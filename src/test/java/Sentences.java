@@ -11,6 +11,8 @@ final class Sentences {
         void on(SkyClocks x);
     }
 
+    private static final int MOST_PRINTED = 100;
+
     private final String document = document();
     private final TreeSet<Integer> promises = new TreeSet<>();
     private String name = "";
@@ -43,14 +45,16 @@ final class Sentences {
     void due(long got, long want) {
         if (got != want) {
             wrong++;
-            System.out.println(name + ", " + place() + ": answered " + got + ", due is " + want);
+            if (wrong <= MOST_PRINTED) {
+                System.out.println(name + ", " + place() + ": answered " + got + ", due is " + want);
+            }
         }
     }
 
     private static String place() {
         StackTraceElement[] calls = new Throwable().getStackTrace();
         for (StackTraceElement call : calls) {
-            if (!call.getClassName().equals("Sentences") && !call.getMethodName().equals("due")) {
+            if (!call.getClassName().equals("Sentences") && !call.getMethodName().equals("due") && !call.getMethodName().equals("holds")) {
                 return call.getFileName() + " line " + call.getLineNumber();
             }
         }
@@ -66,6 +70,11 @@ final class Sentences {
                 System.out.println("promise " + promise + " has no test here");
             }
         }
+        end();
+    }
+
+    /** Ends the tests: exit code 1 if an answer was wrong. */
+    void end() {
         System.out.println(tests + " sentences: " + (wrong == 0 ? "all answers are as due" : wrong + " answers are not as due"));
         if (wrong != 0) {
             System.exit(1);

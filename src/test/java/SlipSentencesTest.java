@@ -387,7 +387,7 @@ public final class SlipSentencesTest {
             due(x.between(1, 0), -74);
             due(x.between(0, 2), Sky.NO_BETWEEN);
         });
-        S.test(26, "BAD (i is j, too) -10000000; NO: there is no such pair -10000002.", x -> {
+        S.test(26, "BETWEEN. BAD (i is j, too) -10000000; NO: there is no such pair -10000002.", x -> {
             for (int i : NO_INSTRUMENTS) {
                 due(x.between(i, 0), -10000000);
                 due(x.between(0, i), -10000000);
@@ -543,7 +543,7 @@ public final class SlipSentencesTest {
             x.offset(0, -1);
             due(x.alarm(0), 22);
         });
-        S.test(29, "NONE; BAD; NO: no MODEL.", x -> {
+        S.test(29, "ALARM: which ARRIVAL. NONE; BAD; NO: no MODEL.", x -> {
             for (int s : NO_STARS) {
                 due(x.alarm(s), -1);
             }

@@ -90,7 +90,7 @@ public final class TextSentencesTest {
             due(x.fault(), NONE);
             due(x.model(3), 8);
         });
-        S.test(9, "Of several the first; nothing changes then.", x -> {
+        S.test(9, "how long it is. BAD; FULL.", x -> {
             Sky.write(x, longText("z10;"));
             due(x.write(0, 0), -1);
             due(x.write(9, 0), -1);
@@ -292,7 +292,7 @@ public final class TextSentencesTest {
             due(x.comes(0, 0), 5000000);
             due(x.comes(1, 0), -2);
         });
-        S.test(12, "STARS 0 to 3", x -> {
+        S.test(12, "how many ITEMS. BAD; NO: a FAULT.", x -> {
             Sky.write(x, "p100000;");
             for (int s : new int[] {LEAST, -1, 4, GREATEST}) {
                 due(x.model(s), -1);

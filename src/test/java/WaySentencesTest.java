@@ -562,7 +562,7 @@ public final class WaySentencesTest {
                 due(x.left(3000, e), -1);
             }
         });
-        S.test(20, "BAD (t 0 to 2000000)", x -> {
+        S.test(20, "LEFT. BAD (t 0 to 2000000)", x -> {
             due(x.left(0, 0), -2);
             due(x.left(2000000, 0), -2);
             for (int t : new int[] {LEAST, -1, 2000001, GREATEST}) {
